@@ -235,6 +235,9 @@ public final class TextsTest {
         fails(x, 0, "follow 1 1");
         fails(x, 1, "hill;follow 1 2");
         fails(x, 0, "swap 2 0 1");
+        fails(x, 0, "swap 0 0 0");
+        fails(x, 0, "follow 1 0");
+        fails(x, 0, "melt 00");
         fails(x, 0, "swap 1 1 1");
         fails(x, 0, "mend 1");
         fails(x, 0, "mend 0");

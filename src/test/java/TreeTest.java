@@ -19,6 +19,8 @@ public final class TreeTest {
         totals();
         shares();
         consistency();
+        fullChain();
+        fullStar();
         missingBlocks();
         check.end();
     }
@@ -261,6 +263,79 @@ public final class TreeTest {
         y.undo();
         check.due("45 undone", true, () -> y.isConsistent());
         check.due("45 full", true, () -> Check.fullChain().isConsistent());
+    }
+
+    /** The longest branch: block 1 holds 7, block 15 holds 7 and 8. */
+    private static void fullChain() {
+        SnowLedger x = new SnowLedger();
+        x.addHill();
+        x.collect(0, 7);
+        for (int i = 0; i < 14; i++) {
+            x.write(0);
+        }
+        x.addHill();
+        x.follow(1, 14);
+        x.collect(1, 7);
+        x.collect(1, 8);
+        x.write(1);
+        check.due("12 childCount(14)", 1, () -> x.childCount(14));
+        check.due("25 root and last", true, () -> x.isInBranch(0, 15));
+        check.due("26 root and last", 0, () -> x.forkOf(15, 0));
+        check.due("26 last and root", 0, () -> x.forkOf(0, 15));
+        check.due("26 first and last", 1, () -> x.forkOf(15, 1));
+        check.due("27 all", 16, () -> x.meltSize(0));
+        check.due("27 the last", 1, () -> x.meltSize(15));
+        check.due("28 one tip", 1, () -> x.tipCount());
+        check.due("29 the last", 15, () -> x.tipAtRank(0));
+        check.due("30 the last", 15, () -> x.bestValidBlock());
+        check.due("31 the first", 1, () -> x.blockWith(7));
+        check.due("31 the last", 15, () -> x.blockWith(8));
+        check.due("33 both", 2, () -> x.differentFlakes(15));
+        check.due("34 in both", 1, () -> x.commonFlakes(15, 14));
+        check.due("39 the last", 1, () -> x.blocksBy(1));
+        check.due("43 fifteen", 15.0, () -> x.meanTipHeight());
+        check.due("44 all", 1.0f, () -> x.validShare());
+        x.replaceFlake(15, 0, 9);
+        check.due("24 the last", 15, () -> x.firstInvalid(15));
+        check.due("35 the last", 1, () -> x.repairsNeeded(15));
+        x.replaceFlake(1, 0, 9);
+        check.due("24 the first", 1, () -> x.firstInvalid(15));
+        check.due("30 only the root", 0, () -> x.bestValidBlock());
+        check.due("44 fourteen", 14.0f / 16.0f, () -> x.validShare());
+        x.undo();
+        x.undo();
+        check.due("6 melt all but the root", 15, () -> x.melt(1));
+        check.due("9 the root is left", 1, () -> x.blockCount());
+    }
+
+    /** All 15 blocks on the root: those of hill 0 have a greater hash than the one of hill 1, which is the last. */
+    private static void fullStar() {
+        SnowLedger x = new SnowLedger();
+        x.addHill();
+        x.addHill();
+        for (int i = 0; i < 14; i++) {
+            x.follow(0, 0);
+            x.collect(0, 50);
+            x.write(0);
+        }
+        x.write(1);
+        check.due("12 root", 15, () -> x.childCount(0));
+        check.due("28 tips", 15, () -> x.tipCount());
+        check.due("29 smallest hash", 15, () -> x.tipAtRank(0));
+        check.due("29 lowest number", 1, () -> x.tipAtRank(1));
+        check.due("29 the last", 14, () -> x.tipAtRank(14));
+        check.refused("29 rank 15", NoSuchElementException.class, () -> x.tipAtRank(15));
+        check.due("32 height 1", 15, () -> x.blocksAtHeight(1));
+        check.due("30 smallest hash", 15, () -> x.bestValidBlock());
+        check.due("31 lowest number", 1, () -> x.blockWith(50));
+        check.due("43 one", 1.0, () -> x.meanTipHeight());
+        x.melt(1);
+        x.follow(0, 0);
+        x.collect(0, 50);
+        check.due("4 the next number", 16, () -> x.write(0));
+        check.due("31 lowest number, not oldest place", 2, () -> x.blockWith(50));
+        check.due("29 lowest number, not oldest place", 2, () -> x.tipAtRank(1));
+        check.due("29 the latest", 16, () -> x.tipAtRank(14));
     }
 
     private static void missingBlocks() {
