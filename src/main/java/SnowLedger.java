@@ -22,7 +22,7 @@ public final class SnowLedger {
     private static final int HASH_MODULUS = 9973;
     private static final int HASH_STEP = 4;
 
-    /** The kinds of change, as a face's call or a script's step asks for them. */
+    /** The kinds of change that a script's step asks for. */
     private static final int ADD_HILL = 0;
     private static final int COLLECT = 1;
     private static final int WRITE = 2;
@@ -59,35 +59,42 @@ public final class SnowLedger {
     // Changes
 
     public int addHill() throws IllegalStateException {
-        return change(ADD_HILL, 0, 0, 0);
+        admit(work.refusalToRaiseHill());
+        return work.raiseHill();
     }
 
     public int collect(int hill, int flake)
             throws IndexOutOfBoundsException, IllegalArgumentException, IllegalStateException {
-        return change(COLLECT, hill, flake, 0);
+        admit(work.refusalToHold(hill, flake));
+        return work.hold(hill, flake);
     }
 
     public int write(int hill)
             throws IndexOutOfBoundsException, IllegalStateException, UnsupportedOperationException {
-        return change(WRITE, hill, 0, 0);
+        admit(work.refusalToAppend(hill));
+        return work.append(hill);
     }
 
     public int follow(int hill, int block) throws IndexOutOfBoundsException, NoSuchElementException {
-        return change(FOLLOW, hill, block, 0);
+        admit(work.refusalToTurn(hill, block));
+        return work.turn(hill, block);
     }
 
     public int melt(int block) throws NoSuchElementException, IllegalArgumentException {
-        return change(MELT, block, 0, 0);
+        admit(work.refusalToRemove(block));
+        return work.remove(block);
     }
 
     public int replaceFlake(int block, int position, int flake)
             throws NoSuchElementException, IndexOutOfBoundsException, IllegalArgumentException {
-        return change(REPLACE, block, position, flake);
+        admit(work.refusalToSwap(block, position, flake));
+        return work.swap(block, position, flake);
     }
 
     public int repair(int block)
             throws NoSuchElementException, IllegalArgumentException, IllegalStateException {
-        return change(REPAIR, block, 0, 0);
+        admit(work.refusalToMend(block));
+        return work.mend(block);
     }
 
     // One block
@@ -397,10 +404,9 @@ public final class SnowLedger {
 
     // Helpers of the face
 
-    private int change(int kind, int first, int second, int third) {
-        throwFor(work.refusalOf(kind, first, second, third));
+    private void admit(Refusal refusal) {
+        throwFor(refusal);
         history.keep(state);
-        return work.carryOut(kind, first, second, third);
     }
 
     private static void throwFor(Refusal refusal) {
@@ -1009,7 +1015,7 @@ public final class SnowLedger {
         Refusal refusalOf(int kind, int first, int second, int third) {
             switch (kind) {
                 case ADD_HILL:
-                    return state.hills < MAX_HILLS ? Refusal.NOTHING : Refusal.STATE;
+                    return refusalToRaiseHill();
                 case COLLECT:
                     return refusalToHold(first, second);
                 case WRITE:
@@ -1044,7 +1050,11 @@ public final class SnowLedger {
             }
         }
 
-        private int raiseHill() {
+        Refusal refusalToRaiseHill() {
+            return state.hills < MAX_HILLS ? Refusal.NOTHING : Refusal.STATE;
+        }
+
+        int raiseHill() {
             int hill = state.hills;
             state.followed.put(hill, ROOT);
             state.hillFlakes.clear(hill);
@@ -1052,7 +1062,7 @@ public final class SnowLedger {
             return hill;
         }
 
-        private Refusal refusalToHold(int hill, int flake) {
+        Refusal refusalToHold(int hill, int flake) {
             if (!state.hasHill(hill)) {
                 return Refusal.INDEX;
             }
@@ -1062,12 +1072,12 @@ public final class SnowLedger {
             return state.hillFlakes.size(hill) < MAX_FLAKES ? Refusal.NOTHING : Refusal.STATE;
         }
 
-        private int hold(int hill, int flake) {
+        int hold(int hill, int flake) {
             state.hillFlakes.add(hill, flake);
             return state.hillFlakes.size(hill);
         }
 
-        private Refusal refusalToAppend(int hill) {
+        Refusal refusalToAppend(int hill) {
             if (!state.hasHill(hill)) {
                 return Refusal.INDEX;
             }
@@ -1077,7 +1087,7 @@ public final class SnowLedger {
             return survey.lowestBroken(state.followed.at(hill)) == NONE ? Refusal.NOTHING : Refusal.OPERATION;
         }
 
-        private int append(int hill) {
+        int append(int hill) {
             int slot = state.freeSlot();
             int number = state.nextNumber;
             state.number.put(slot, number);
@@ -1100,20 +1110,20 @@ public final class SnowLedger {
             state.hash.put(slot, hashWith(parentHash, flakeRoot, state.writer.at(slot), nonce));
         }
 
-        private Refusal refusalToTurn(int hill, int block) {
+        Refusal refusalToTurn(int hill, int block) {
             if (!state.hasHill(hill)) {
                 return Refusal.INDEX;
             }
             return state.slotOf(block) == NONE ? Refusal.ELEMENT : Refusal.NOTHING;
         }
 
-        private int turn(int hill, int block) {
+        int turn(int hill, int block) {
             int before = state.number.at(state.followed.at(hill));
             state.followed.put(hill, state.slotOf(block));
             return before;
         }
 
-        private Refusal refusalToRemove(int block) {
+        Refusal refusalToRemove(int block) {
             int slot = state.slotOf(block);
             if (slot == NONE) {
                 return Refusal.ELEMENT;
@@ -1121,7 +1131,7 @@ public final class SnowLedger {
             return slot == ROOT ? Refusal.ARGUMENT : Refusal.NOTHING;
         }
 
-        private int remove(int block) {
+        int remove(int block) {
             int melting = state.slotOf(block);
             int parent = state.parent.at(melting);
             // All are marked before one is freed: a freed block leads no longer to the one that melts.
@@ -1144,7 +1154,7 @@ public final class SnowLedger {
             return removed;
         }
 
-        private Refusal refusalToSwap(int block, int position, int flake) {
+        Refusal refusalToSwap(int block, int position, int flake) {
             int slot = state.slotOf(block);
             if (slot == NONE) {
                 return Refusal.ELEMENT;
@@ -1155,14 +1165,14 @@ public final class SnowLedger {
             return isFlake(flake) ? Refusal.NOTHING : Refusal.ARGUMENT;
         }
 
-        private int swap(int block, int position, int flake) {
+        int swap(int block, int position, int flake) {
             int slot = state.slotOf(block);
             int before = state.blockFlakes.flake(slot, position);
             state.blockFlakes.replace(slot, position, flake);
             return before;
         }
 
-        private Refusal refusalToMend(int block) {
+        Refusal refusalToMend(int block) {
             Refusal refusal = refusalToRemove(block);
             if (refusal != Refusal.NOTHING) {
                 return refusal;
@@ -1170,7 +1180,7 @@ public final class SnowLedger {
             return survey.holds(state.slotOf(block)) ? Refusal.STATE : Refusal.NOTHING;
         }
 
-        private int mend(int block) {
+        int mend(int block) {
             int slot = state.slotOf(block);
             seal(slot);
             return state.hash.at(slot);

@@ -12,6 +12,7 @@ public final class BlocksTest {
         countsAndParents();
         hashes();
         rootsOfFlakes();
+        flakesBesideMeltedOnes();
         heights();
         validity();
         validAgainByOtherFlakes();
@@ -89,6 +90,30 @@ public final class BlocksTest {
             ledger.collect(0, flake);
         }
         ledger.write(0);
+    }
+
+    /** A block that takes the room of a melted one has its own flakes alone, and leaves those of its neighbours. */
+    private static void flakesBesideMeltedOnes() {
+        SnowLedger x = new SnowLedger();
+        x.addHill();
+        x.addHill();
+        writeWith(x, 11, 12, 13, 14);
+        x.follow(0, 0);
+        writeWith(x, 21);
+        x.melt(1);
+        x.collect(1, 9);
+        x.follow(0, 0);
+        writeWith(x);
+        check.due("14 none", 0, () -> x.flakeCount(3));
+        check.due("18 none", 0, () -> x.rootOfFlakes(3));
+        check.due("19 none", 0, () -> x.rootOfFlakesByHalves(3));
+        check.refused("31 melted flake", NoSuchElementException.class, () -> x.blockWith(11));
+        x.melt(3);
+        writeWith(x, 1, 2, 3, 4);
+        check.due("15 neighbour", 21, () -> x.flakeAt(2, 0));
+        check.due("18 neighbour", 21, () -> x.rootOfFlakes(2));
+        check.due("22 neighbour", true, () -> x.isValid(2));
+        check.due("19 all four", 110, () -> x.rootOfFlakesByHalves(4));
     }
 
     private static void heights() {

@@ -16,6 +16,7 @@ public final class ChangesTest {
         meltMovesHills();
         replaceFlake();
         repair();
+        nonces();
         refusedChangesChangeNothing();
         check.end();
     }
@@ -200,6 +201,25 @@ public final class ChangesTest {
         check.due("8 repair 2", 7492, () -> x.repair(2));
         check.due("8 nonce of 2", 3, () -> x.nonceOf(2));
         check.refused("8 valid again", IllegalStateException.class, () -> x.repair(2));
+    }
+
+    /** Each nonce that there is, and that a nonce of 0 is taken where the hash needs none. */
+    private static void nonces() {
+        boolean[] met = new boolean[4];
+        for (int flake = 0; flake < 100; flake++) {
+            SnowLedger x = new SnowLedger();
+            x.addHill();
+            x.collect(0, flake);
+            int hash = (61 + 29 * flake) % 9973;
+            int nonce = (4 - hash % 4) % 4;
+            met[nonce] = true;
+            int predicted = x.nextHash(0);
+            x.write(0);
+            check.due("4 nonce with flake " + flake, nonce, () -> x.nonceOf(1));
+            check.due("4 hash with flake " + flake, hash + nonce, () -> x.hashOf(1));
+            check.due("40 hash with flake " + flake, hash + nonce, () -> predicted);
+        }
+        check.due("4 all nonces", true, () -> met[0] && met[1] && met[2] && met[3]);
     }
 
     private static void refusedChangesChangeNothing() {

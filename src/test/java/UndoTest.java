@@ -15,33 +15,29 @@ public final class UndoTest {
         check.end();
     }
 
-    private static void undoOfEachChange() {
-        SnowLedger x = Check.twoBranches();
-        x.replaceFlake(1, 0, 11);
-        String tampered = describe(x);
-        x.repair(1);
-        check.due("53 repair", tampered, () -> undone(x));
-        x.undo();
-        String before = describe(x);
-        x.replaceFlake(1, 0, 11);
-        check.due("53 replaceFlake", before, () -> undone(x));
-        x.addHill();
-        check.due("53 addHill", before, () -> undone(x));
-        x.collect(1, 3);
-        check.due("53 collect", before, () -> undone(x));
-        x.write(2);
-        check.due("53 write", before, () -> undone(x));
-        x.follow(2, 4);
-        check.due("53 follow", before, () -> undone(x));
-        x.melt(3);
-        check.due("53 melt", before, () -> undone(x));
-        Check.run(x, "melt 1;write 0;write 2");
-        check.due("53 runScript", before, () -> undone(x));
+    interface Change {
+        void on(SnowLedger ledger);
     }
 
-    private static String undone(SnowLedger ledger) {
-        ledger.undo();
-        return describe(ledger);
+    private static void undoOfEachChange() {
+        undoOf("addHill", x -> x.addHill());
+        undoOf("collect", x -> x.collect(1, 3));
+        undoOf("write", x -> x.write(2));
+        undoOf("follow", x -> x.follow(2, 4));
+        undoOf("melt", x -> x.melt(3));
+        undoOf("replaceFlake", x -> x.replaceFlake(1, 0, 11));
+        undoOf("repair", x -> x.repair(4));
+        undoOf("runScript", x -> Check.run(x, "melt 1;write 0;write 2"));
+    }
+
+    /** Each change has a ledger of its own, since one is good for 512 calls and a description takes many. */
+    private static void undoOf(String what, Change change) {
+        SnowLedger x = Check.twoBranches();
+        x.replaceFlake(4, 0, 12);
+        String before = describe(x);
+        change.on(x);
+        check.due("53 " + what + " is one change", 7, () -> x.undo());
+        check.due("53 " + what + " undone", before, () -> describe(x));
     }
 
     /** All that a ledger tells of its state, but for the number of the next block. */

@@ -1,0 +1,58 @@
+import java.io.IOException;
+import java.nio.file.Files;
+import java.nio.file.Path;
+import java.util.ArrayList;
+import java.util.List;
+import java.util.regex.Matcher;
+import java.util.regex.Pattern;
+
+/** Those rules of ../shared/LANGUAGE.md that the text of the class alone can break; FaceTest looks at rule 1. */
+public final class LanguageTest {
+    private static final Check check = new Check();
+    private static final int LONGEST_METHOD = 60;
+
+    public static void main(String[] args) throws IOException {
+        String source = Files.readString(Path.of("src/main/java/SnowLedger.java"));
+        String code = source.replaceAll("(?s)/\\*.*?\\*/", " ").replaceAll("//[^\n]*", " ");
+        String bare = code.replaceAll("'(\\\\.|[^'])'", "' '").replaceAll("\"[^\"\n]*\"", "\"\"");
+        noneOf("4 signs of constants", code, "[^\\n\\x20-\\x7e]");
+        noneOf("2, 6 words", bare, "\\b(try|catch|finally|synchronized|assert|package|import static)\\b");
+        noneOf("2 lambdas and method references", bare, "->|::");
+        noneOf("4 the library's exact functions", bare, "\\w+Exact\\(");
+        noneOf("10 texts are joined by StringBuilder", bare, "\"\" *\\+|\\+ *\"\"");
+        noneOf("4 imports", bare, "\\bimport (?!java\\.util\\.(Arrays|NoSuchElementException);)[^;]*;");
+        noneOf("6 throws", bare, "\\bthrow (?!new (IllegalState|IllegalArgument|IndexOutOfBounds|Arithmetic"
+                + "|UnsupportedOperation|NoSuchElement|Runtime)(Exception)\\((\"\")?\\);)[^;]*;");
+        noneOf("5 static fields", bare, "\\bstatic (?!final )[\\w\\[\\]]+ \\w+ *[=;]");
+        noneOf("5 static initialiser blocks", bare, "\\bstatic *\\{");
+        noneOf("13 clock and chance", bare, "\\b(Random|currentTimeMillis|nanoTime|Thread|getenv|getProperty)\\b");
+        check.due("11 longest method", true, () -> longestBlock(bare) <= LONGEST_METHOD);
+        check.end();
+    }
+
+    private static void noneOf(String what, String code, String forbidden) {
+        List<String> found = new ArrayList<>();
+        Matcher matcher = Pattern.compile(forbidden).matcher(code);
+        while (matcher.find()) {
+            found.add(matcher.group());
+        }
+        check.due("rule " + what, "[]", () -> found.toString());
+    }
+
+    /** The lines of the longest block that starts as a method does: by a closing bracket and perhaps a throws. */
+    private static int longestBlock(String code) {
+        Matcher start = Pattern.compile("\\)( *\\n? *throws [^{;]+)? \\{\\n").matcher(code);
+        int longest = 0;
+        while (start.find()) {
+            int depth = 1;
+            int lines = 1;
+            for (int at = start.end(); depth > 0 && at < code.length(); at++) {
+                char sign = code.charAt(at);
+                depth += sign == '{' ? 1 : sign == '}' ? -1 : 0;
+                lines += sign == '\n' ? 1 : 0;
+            }
+            longest = Math.max(longest, lines);
+        }
+        return longest;
+    }
+}
