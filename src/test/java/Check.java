@@ -1,7 +1,17 @@
 /** Counts and prints the answers that are not as due, and ends the program with exit code 1 if there was one. */
 final class Check {
+    private final String title;
     private int checked;
     private int wrong;
+
+    Check() {
+        this("");
+    }
+
+    /** The title stands before each wrong answer. */
+    Check(String title) {
+        this.title = title;
+    }
 
     interface Call {
         Object answer();
@@ -17,13 +27,22 @@ final class Check {
         }
         if (!want.equals(got)) {
             wrong++;
-            System.out.println(what + " answered " + got + ", due is " + want);
+            System.out.println(title + what + " answered " + got + ", due is " + want);
         }
     }
 
     /** Only the very class counts: one of the machine's own exceptions below it is wrong. */
     void refused(String what, Class<? extends RuntimeException> want, Call call) {
         due(what, "throws " + want.getSimpleName(), call);
+    }
+
+    int checked() {
+        return checked;
+    }
+
+    void add(Check other) {
+        checked += other.checked;
+        wrong += other.wrong;
     }
 
     void end() {

@@ -471,10 +471,14 @@ final class Model {
         return script.length();
     }
 
+    static boolean hasForm(String text) {
+        return FORM.matcher(text).matches();
+    }
+
     int runScript() {
         String text = script;
         script = "";
-        if (!FORM.matcher(text).matches()) {
+        if (!hasForm(text)) {
             errorPosition = firstMisfit(text);
             throw new IllegalArgumentException();
         }
