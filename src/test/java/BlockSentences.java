@@ -195,24 +195,16 @@ final class BlockSentences {
         for (int[] flakes : lists) {
             int count = flakes.length;
             if (count > 0) {
-                check.due("the first of " + count, 40, () -> between(flakes).flakeAt(2, 0));
-                check.due("the last of " + count, 40 + count - 1, () -> between(flakes).flakeAt(2, count - 1));
+                check.due("the first of " + count, 40, () -> Ledgers.between(flakes).flakeAt(2, 0));
+                check.due("the last of " + count, 40 + count - 1, () -> Ledgers.between(flakes).flakeAt(2, count - 1));
             }
-            Refusals refusals = Refusals.of(check, () -> between(flakes));
+            Refusals refusals = Refusals.of(check, () -> Ledgers.between(flakes));
             for (int position : new int[] {-1, -4, count, 4, 5, MIN, MAX, MAX / 4 + 1, MIN / 4}) {
                 refusals.index(position + " of " + count, x -> x.flakeAt(2, position));
             }
             refusals.leaveAllAsItWas();
         }
         Refusals.of(check, Ledgers::twoBranches).index("the root", x -> x.flakeAt(0, 0)).leaveAllAsItWas();
-    }
-
-    /** Block 2 has the flakes, and the blocks before and after it have four each. */
-    private static SnowLedger between(int... flakes) {
-        SnowLedger ledger = Ledgers.withBlock(20, 21, 22, 23);
-        Ledgers.write(ledger, 0, flakes);
-        Ledgers.write(ledger, 0, 30, 31, 32, 33);
-        return ledger;
     }
 
     // Promise 16

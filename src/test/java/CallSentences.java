@@ -1,5 +1,13 @@
+import java.util.Arrays;
+
 /** The sentences of promises 1 to 8: a new object, and the changes that are no scripts. */
 final class CallSentences {
+    private static final String WRITES = "Lets a hill write a block with all flakes that it has collected, "
+            + "in the order in which it collected them.";
+    private static final String INVALID_BRANCH = "Throws `UnsupportedOperationException` "
+            + "if the branch of the block that the hill follows is not valid";
+    private static final String REPAIRS = "Repairs a block: its nonce and its stored hash are computed anew, "
+            + "as if it was added now.";
     private static final int MIN = Integer.MIN_VALUE;
     private static final int MAX = Integer.MAX_VALUE;
 
@@ -129,7 +137,7 @@ final class CallSentences {
 
     @Sentence(of = "Promise 3", text = "Throws `IndexOutOfBoundsException` if there is no such hill")
     static void collectByNoHill(Check check) {
-        noSuchHill(check, (x, hill) -> x.collect(hill, 5));
+        Missing.hill(check, (x, hill) -> x.collect(hill, 5));
     }
 
     @Sentence(of = "Promise 3", text = "Throws `IllegalArgumentException` if flake is not between 0 and 99")
@@ -167,8 +175,7 @@ final class CallSentences {
 
     // Promise 4
 
-    @Sentence(of = "Promise 4", text = "Lets a hill write a block with all flakes that it has collected, "
-            + "in the order in which it collected them.")
+    @Sentence(of = "Promise 4", text = WRITES)
     static void writtenFlakes(Check check) {
         int[][] lists = {{}, {0}, {99, 0}, {3, 9, 3}, {4, 3, 2, 1}, {5, 5, 5, 5}};
         SnowLedger x = Ledgers.withHills(1);
@@ -179,6 +186,49 @@ final class CallSentences {
                 int at = position;
                 check.due("flake " + at + " of " + block, flakes[at], () -> x.flakeAt(block, at));
             }
+        }
+    }
+
+    @Sentence(of = "Promise 4", text = WRITES)
+    static void eachHillsOwnFlakes(Check check) {
+        SnowLedger x = Ledgers.withHills(4);
+        for (int count = 0; count < 4; count++) {
+            for (int hill = 3; hill >= 0; hill--) {
+                x.collect(hill, 10 * hill + count);
+            }
+        }
+        for (int hill = 0; hill < 4; hill++) {
+            int writer = hill;
+            String flakes = "," + 10 * hill + "," + (10 * hill + 1) + "," + (10 * hill + 2) + "," + (10 * hill + 3);
+            String due = "#" + x.nextHash(hill) + "<0h" + hill + flakes;
+            check.due("by hill " + writer, (writer + 1) + due, () -> Check.output(x, x.renderBlock(x.write(writer))));
+        }
+    }
+
+    /** The other hill holds flakes too, and there are blocks before and after the room that is taken. */
+    @Sentence(of = "Promise 4", text = WRITES)
+    static void writtenInAMeltedOnesRoom(Check check) {
+        for (int melted = 1; melted <= 3; melted++) {
+            int gone = melted;
+            SnowLedger x = Ledgers.withHills(2);
+            for (int block = 1; block <= 3; block++) {
+                x.follow(0, 0);
+                Ledgers.write(x, 0, 10 * block, 10 * block + 1, 10 * block + 2, 10 * block + 3);
+            }
+            x.melt(gone);
+            x.collect(1, 97);
+            x.follow(0, 0);
+            Ledgers.write(x, 0, 91, 92, 93, 94);
+            for (int block = 1; block <= 4; block++) {
+                int number = block;
+                if (number != gone) {
+                    int first = number == 4 ? 91 : 10 * number;
+                    check.due("first flake of " + number, first, () -> x.flakeAt(number, 0));
+                    check.due("last flake of " + number, first + 3, () -> x.flakeAt(number, 3));
+                    check.due("valid " + number, true, () -> x.isValid(number));
+                }
+            }
+            check.due("the other hill's flake", Due.hash(1, 97, 1), () -> x.nextHash(1));
         }
     }
 
@@ -206,7 +256,7 @@ final class CallSentences {
 
     @Sentence(of = "Promise 4", text = "Throws `IndexOutOfBoundsException` if there is no such hill")
     static void writeByNoHill(Check check) {
-        noSuchHill(check, (x, hill) -> x.write(hill));
+        Missing.hill(check, (x, hill) -> x.write(hill));
     }
 
     @Sentence(of = "Promise 4", text = "Throws `IllegalStateException` if there are 16 blocks")
@@ -233,8 +283,7 @@ final class CallSentences {
         return ledger;
     }
 
-    @Sentence(of = "Promise 4", text = "Throws `UnsupportedOperationException` "
-            + "if the branch of the block that the hill follows is not valid")
+    @Sentence(of = "Promise 4", text = INVALID_BRANCH)
     static void writeOnInvalidBranch(Check check) {
         for (int block = 1; block <= 5; block++) {
             int broken = block;
@@ -266,8 +315,7 @@ final class CallSentences {
         return ledger;
     }
 
-    @Sentence(of = "Promise 4", text = "Throws `UnsupportedOperationException` "
-            + "if the branch of the block that the hill follows is not valid")
+    @Sentence(of = "Promise 4", text = INVALID_BRANCH)
     static void writeOnBranchThatIsValidAgain(Check check) {
         SnowLedger x = tamperedChain(1);
         x.repair(1);
@@ -310,7 +358,7 @@ final class CallSentences {
 
     @Sentence(of = "Promise 5", text = "Throws `IndexOutOfBoundsException` if there is no such hill")
     static void followByNoHill(Check check) {
-        noSuchHill(check, (x, hill) -> x.follow(hill, 0));
+        Missing.hill(check, (x, hill) -> x.follow(hill, 0));
     }
 
     @Sentence(of = "Promise 5", text = "Throws `NoSuchElementException` if there is no such block in the tree")
@@ -390,11 +438,11 @@ final class CallSentences {
         int[] flakes = {10, 11, 12, 13};
         for (int size = 0; size <= 4; size++) {
             int count = size;
-            Refusals refusals = Refusals.of(check, () -> neighbours(java.util.Arrays.copyOf(flakes, count)));
+            Refusals refusals = Refusals.of(check, () -> Ledgers.between(Arrays.copyOf(flakes, count)));
             if (count > 0) {
-                check.due("the first of " + count, 10, () -> neighbours(flakes).replaceFlake(2, 0, 5));
+                check.due("the first of " + count, 10, () -> Ledgers.between(flakes).replaceFlake(2, 0, 5));
                 check.due("the last of " + count, 10 + count - 1,
-                        () -> neighbours(java.util.Arrays.copyOf(flakes, count)).replaceFlake(2, count - 1, 5));
+                        () -> Ledgers.between(Arrays.copyOf(flakes, count)).replaceFlake(2, count - 1, 5));
             }
             for (int position : new int[] {-1, count, 4, 5, MIN, MAX, MAX / 4 + 1, MIN / 4}) {
                 refusals.index(position + " of " + count, x -> x.replaceFlake(2, position, 5));
@@ -402,14 +450,6 @@ final class CallSentences {
             refusals.leaveAllAsItWas();
         }
         Refusals.of(check, Ledgers::twoBranches).index("the root", x -> x.replaceFlake(0, 0, 5)).leaveAllAsItWas();
-    }
-
-    /** Block 2 has the flakes, and the blocks before and after it are full of others. */
-    private static SnowLedger neighbours(int... flakes) {
-        SnowLedger ledger = Ledgers.withBlock(20, 21, 22, 23);
-        Ledgers.write(ledger, 0, flakes);
-        Ledgers.write(ledger, 0, 30, 31, 32, 33);
-        return ledger;
     }
 
     @Sentence(of = "Promise 7", text = "Throws `IllegalArgumentException` if flake is not between 0 and 99")
@@ -426,8 +466,7 @@ final class CallSentences {
 
     // Promise 8
 
-    @Sentence(of = "Promise 8", text = "Repairs a block: its nonce and its stored hash are computed anew, "
-            + "as if it was added now.")
+    @Sentence(of = "Promise 8", text = REPAIRS)
     static void repairedBlock(Check check) {
         SnowLedger x = Ledgers.twoBranches();
         x.replaceFlake(1, 1, 99);
@@ -444,8 +483,7 @@ final class CallSentences {
         check.due("the parent is as it was", 5172, () -> x.hashOf(1));
     }
 
-    @Sentence(of = "Promise 8", text = "Repairs a block: its nonce and its stored hash are computed anew, "
-            + "as if it was added now.")
+    @Sentence(of = "Promise 8", text = REPAIRS)
     static void repairByAnotherNonceAlone(Check check) {
         SnowLedger x = Ledgers.withBlock(10, 40);
         x.replaceFlake(1, 0, 1);
@@ -527,20 +565,5 @@ final class CallSentences {
         y.replaceFlake(1, 0, 2);
         y.replaceFlake(1, 1, 55);
         check.refused("other flakes of the same root", IllegalStateException.class, () -> y.repair(1));
-    }
-
-    private static void noSuchHill(Check check, Missing.Query call) {
-        for (int hills = 0; hills <= 4; hills++) {
-            int count = hills;
-            if (count > 0) {
-                check.due("the first of " + count, true, () -> call.of(Ledgers.withHills(count), 0) != null);
-                check.due("the last of " + count, true, () -> call.of(Ledgers.withHills(count), count - 1) != null);
-            }
-            Refusals refusals = Refusals.of(check, () -> Ledgers.withHills(count));
-            for (int hill : new int[] {-1, count, 4, 5, MIN, MAX}) {
-                refusals.index("hill " + hill + " of " + count, x -> call.of(x, hill));
-            }
-            refusals.leaveAllAsItWas();
-        }
     }
 }

@@ -4,11 +4,13 @@ import java.util.function.Supplier;
 
 /** The sentences of 'Changes' and of promises 53 to 55. */
 final class ChangeSentences {
-    private ChangeSentences() {
-    }
+    private static final String CHANGE = "A change is a call of addHill, collect, write, follow, melt, "
+            + "replaceFlake, repair or runScript that returns normally, even if the state is the same afterwards.";
+    private static final String COVERED = """
+            Undo and the snapshot cover everything except the script buffer, the error position, the index of the failed
+            command, the output text and the snapshot itself; they also take back the number of the next block.""";
 
-    interface Call {
-        Object on(SnowLedger ledger);
+    private ChangeSentences() {
     }
 
     /** Two branches of which block 4 is invalid, with nothing to undo. */
@@ -21,8 +23,8 @@ final class ChangeSentences {
     }
 
     /** One call of each kind of change, all of which can be made one after another. */
-    private static Map<String, Call> changes() {
-        Map<String, Call> changes = new LinkedHashMap<>();
+    private static Map<String, LedgerCall> changes() {
+        Map<String, LedgerCall> changes = new LinkedHashMap<>();
         changes.put("addHill", x -> x.addHill());
         changes.put("collect", x -> x.collect(1, 3));
         changes.put("write", x -> x.write(2));
@@ -36,8 +38,7 @@ final class ChangeSentences {
 
     // Changes
 
-    @Sentence(of = "Changes", text = "A change is a call of addHill, collect, write, follow, melt, replaceFlake, repair "
-            + "or runScript that returns normally, even if the state is the same afterwards.")
+    @Sentence(of = "Changes", text = CHANGE)
     static void eachKindOfChange(Check check) {
         changes().forEach((name, change) -> {
             SnowLedger x = withoutChanges();
@@ -48,10 +49,11 @@ final class ChangeSentences {
         countsAsOne(check, "the same block followed", x -> x.follow(0, 2));
         countsAsOne(check, "the same flake put", x -> x.replaceFlake(1, 0, 10));
         countsAsOne(check, "a script that follows the same block", x -> Check.run(x, "follow 0 2"));
-        countsAsOne(check, "a script that comes back", x -> Check.run(x, "follow 0 0;swap 1 0 5;swap 1 0 10;follow 0 2"));
+        countsAsOne(check, "a script that comes back",
+                x -> Check.run(x, "follow 0 0;swap 1 0 5;swap 1 0 10;follow 0 2"));
     }
 
-    private static void countsAsOne(Check check, String what, Call change) {
+    private static void countsAsOne(Check check, String what, LedgerCall change) {
         String before = Picture.covered(ChangeSentences::withoutChanges);
         check.due(what + " keeps the state", before, () -> Picture.covered(() -> changed(change)));
         SnowLedger x = changed(change);
@@ -59,14 +61,13 @@ final class ChangeSentences {
         check.refused(what + " is one change", IllegalStateException.class, () -> x.undo());
     }
 
-    private static SnowLedger changed(Call change) {
+    private static SnowLedger changed(LedgerCall change) {
         SnowLedger ledger = withoutChanges();
         change.on(ledger);
         return ledger;
     }
 
-    @Sentence(of = "Changes", text = "A change is a call of addHill, collect, write, follow, melt, replaceFlake, repair "
-            + "or runScript that returns normally, even if the state is the same afterwards.")
+    @Sentence(of = "Changes", text = CHANGE)
     static void whatIsNoChange(Check check) {
         SnowLedger x = withoutChanges();
         x.save();
@@ -121,7 +122,7 @@ final class ChangeSentences {
         SnowLedger x = withoutChanges();
         String[] states = new String[8];
         int at = 0;
-        for (Call change : changes().values()) {
+        for (LedgerCall change : changes().values()) {
             states[at] = shortState(x);
             at++;
             change.on(x);
@@ -146,9 +147,7 @@ final class ChangeSentences {
         return text.toString();
     }
 
-    @Sentence(of = "Changes", text = """
-            Undo and the snapshot cover everything except the script buffer, the error position, the index of the failed
-            command, the output text and the snapshot itself; they also take back the number of the next block.""")
+    @Sentence(of = "Changes", text = COVERED)
     static void undoCoversAll(Check check) {
         changes().forEach((name, change) -> {
             String before = Picture.covered(ChangeSentences::withoutChanges);
@@ -184,9 +183,7 @@ final class ChangeSentences {
         return ledger;
     }
 
-    @Sentence(of = "Changes", text = """
-            Undo and the snapshot cover everything except the script buffer, the error position, the index of the failed
-            command, the output text and the snapshot itself; they also take back the number of the next block.""")
+    @Sentence(of = "Changes", text = COVERED)
     static void whatUndoAndTheSnapshotLeave(Check check) {
         for (boolean byUndo : new boolean[] {true, false}) {
             String what = byUndo ? "undo" : "restore";
@@ -211,9 +208,7 @@ final class ChangeSentences {
         }
     }
 
-    @Sentence(of = "Changes", text = """
-            Undo and the snapshot cover everything except the script buffer, the error position, the index of the failed
-            command, the output text and the snapshot itself; they also take back the number of the next block.""")
+    @Sentence(of = "Changes", text = COVERED)
     static void theNextNumberIsTakenBack(Check check) {
         SnowLedger x = Ledgers.chain(3);
         x.write(0);

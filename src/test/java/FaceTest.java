@@ -73,7 +73,7 @@ public final class FaceTest {
             check.due("hidden and static: " + inner, true, () -> !Modifier.isPublic(inner.getModifiers())
                     && !Modifier.isProtected(inner.getModifiers()) && Modifier.isStatic(inner.getModifiers()));
             for (Method method : inner.getDeclaredMethods()) {
-                if (publicNames.contains(method.getName())) {
+                if (Modifier.isPrivate(method.getModifiers()) && publicNames.contains(method.getName())) {
                     wrong.add(method.toString());
                 }
             }

@@ -1,33 +1,8 @@
+import java.util.NoSuchElementException;
+
 /** The sentences of promises 36 to 45: hills, totals and shares. */
 final class HillSentences {
-    private static final int MIN = Integer.MIN_VALUE;
-    private static final int MAX = Integer.MAX_VALUE;
-
     private HillSentences() {
-    }
-
-    /** Each hill of the ledger has an answer, and no other number has, with no hill up to four of them. */
-    private static void noSuchHill(Check check, Missing.Query query) {
-        for (int hills = 0; hills <= 4; hills++) {
-            int count = hills;
-            for (int hill = 0; hill < hills; hill++) {
-                int index = hill;
-                check.due("hill " + index + " of " + count, true,
-                        () -> query.of(Ledgers.withHills(count), index) != null);
-            }
-            Refusals refusals = Refusals.of(check, () -> Ledgers.withHills(count));
-            for (int hill : new int[] {-1, count, 4, 5, MIN, MAX}) {
-                refusals.index("hill " + hill + " of " + count, x -> query.of(x, hill));
-            }
-            refusals.leaveAllAsItWas();
-        }
-        Refusals.of(check, Ledgers::wellUsed)
-                .index("hill -1 beside blocks", x -> query.of(x, -1))
-                .index("hill 4 beside blocks", x -> query.of(x, 4))
-                .leaveAllAsItWas();
-        SnowLedger x = Ledgers.withHills(3);
-        x.undo();
-        check.refused("an undone hill", IndexOutOfBoundsException.class, () -> query.of(x, 2));
     }
 
     // Promise 36
@@ -77,7 +52,7 @@ final class HillSentences {
 
     @Sentence(of = "Promise 37", text = "Throws `IndexOutOfBoundsException` if there is no such hill")
     static void followedByNone(Check check) {
-        noSuchHill(check, SnowLedger::followed);
+        Missing.hill(check, SnowLedger::followed);
     }
 
     // Promise 38
@@ -107,7 +82,7 @@ final class HillSentences {
 
     @Sentence(of = "Promise 38", text = "Throws `IndexOutOfBoundsException` if there is no such hill")
     static void collectedByNone(Check check) {
-        noSuchHill(check, SnowLedger::collected);
+        Missing.hill(check, SnowLedger::collected);
     }
 
     // Promise 39
@@ -138,7 +113,7 @@ final class HillSentences {
 
     @Sentence(of = "Promise 39", text = "Throws `IndexOutOfBoundsException` if there is no such hill")
     static void blocksByNone(Check check) {
-        noSuchHill(check, SnowLedger::blocksBy);
+        Missing.hill(check, SnowLedger::blocksBy);
     }
 
     // Promise 40
@@ -178,7 +153,7 @@ final class HillSentences {
 
     @Sentence(of = "Promise 40", text = "Throws `IndexOutOfBoundsException` if there is no such hill")
     static void foretoldHashOfNone(Check check) {
-        noSuchHill(check, SnowLedger::nextHash);
+        Missing.hill(check, SnowLedger::nextHash);
     }
 
     // Promises 41 and 42
@@ -216,7 +191,7 @@ final class HillSentences {
         x.melt(5);
         check.due("ten more", 11, () -> x.meltedTotal());
         check.refused("the root", IllegalArgumentException.class, () -> x.melt(0));
-        check.refused("melted already", java.util.NoSuchElementException.class, () -> x.melt(15));
+        check.refused("melted already", NoSuchElementException.class, () -> x.melt(15));
         check.due("refused ones do not count", 11, () -> x.meltedTotal());
         x.undo();
         check.due("undone", 1, () -> x.meltedTotal());

@@ -16,11 +16,15 @@ public final class LanguageTest {
         String code = source.replaceAll("(?s)/\\*.*?\\*/", " ").replaceAll("//[^\n]*", " ");
         String bare = code.replaceAll("'(\\\\.|[^'])'", "' '").replaceAll("\"[^\"\n]*\"", "\"\"");
         noneOf("4 signs of constants", code, "[^\\n\\x20-\\x7e]");
-        noneOf("2, 6 words", bare, "\\b(try|catch|finally|synchronized|assert|package|import static)\\b");
+        noneOf("6 words", bare, "\\b(finally|synchronized|assert|package|import static)\\b");
+        noneOf("6 catches of what the machine throws", bare, "\\bcatch \\([^)]*\\b(Throwable|Error|Exception"
+                + "|RuntimeException|NullPointerException|ClassCastException|NegativeArraySizeException"
+                + "|ArrayStoreException|ArrayIndexOutOfBoundsException|StringIndexOutOfBoundsException)\\b");
         noneOf("2 lambdas and method references", bare, "->|::");
         noneOf("4 the library's exact functions", bare, "\\w+Exact\\(");
         noneOf("10 texts are joined by StringBuilder", bare, "\"\" *\\+|\\+ *\"\"");
-        noneOf("4 imports", bare, "\\bimport (?!java\\.util\\.(Arrays|NoSuchElementException);)[^;]*;");
+        noneOf("4 imports", bare, "\\bimport (?!java\\.util\\."
+                + "(Arrays|ArrayList|List|Iterator|NoSuchElementException);)[^;]*;");
         noneOf("6 throws", bare, "\\bthrow (?!new (IllegalState|IllegalArgument|IndexOutOfBounds|Arithmetic"
                 + "|UnsupportedOperation|NoSuchElement|Runtime)(Exception)\\((\"\")?\\);)[^;]*;");
         noneOf("5 static fields", bare, "\\bstatic (?!final )[\\w\\[\\]]+ \\w+ *[=;]");

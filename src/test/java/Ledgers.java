@@ -45,6 +45,30 @@ final class Ledgers {
         return ledger;
     }
 
+    /** A chain in which block 2 has the flakes, and the blocks before and after it have four others each. */
+    static SnowLedger between(int... flakes) {
+        SnowLedger ledger = withBlock(20, 21, 22, 23);
+        write(ledger, 0, flakes);
+        write(ledger, 0, 30, 31, 32, 33);
+        return ledger;
+    }
+
+    /**
+     * Three hills. Hill 1 wrote 1 on the root (10, 20) and hill 2 wrote 2 on it (30); 3 has melted. Hill 0 follows 1
+     * and holds 40, hill 1 follows 1 and holds 50, hill 2 follows 2.
+     */
+    static SnowLedger mixed() {
+        SnowLedger ledger = withHills(3);
+        write(ledger, 1, 10, 20);
+        write(ledger, 2, 30);
+        ledger.write(0);
+        ledger.melt(3);
+        ledger.follow(0, 1);
+        ledger.collect(0, 40);
+        ledger.collect(1, 50);
+        return ledger;
+    }
+
     static SnowLedger twoBranches() {
         return Check.twoBranches();
     }

@@ -1,6 +1,6 @@
 import java.util.function.Supplier;
 
-/** Which numbers of blocks have an answer, and which are refused as no block in the tree. */
+/** Which numbers of blocks and of hills have an answer, and which are refused as there is none. */
 final class Missing {
     private static final int MIN = Integer.MIN_VALUE;
     private static final int MAX = Integer.MAX_VALUE;
@@ -75,5 +75,29 @@ final class Missing {
             refusals.element("block " + block + " beside " + where, ledger -> query.of(ledger, block));
         }
         refusals.leaveAllAsItWas();
+    }
+
+    /** Each hill has an answer, and no other number has, with no hill up to four of them. */
+    static void hill(Check check, Query query) {
+        for (int hills = 0; hills <= 4; hills++) {
+            int count = hills;
+            Supplier<SnowLedger> made = () -> Ledgers.withHills(count);
+            for (int hill = 0; hill < count; hill++) {
+                int index = hill;
+                check.due("hill " + index + " of " + count, true, () -> query.of(made.get(), index) != null);
+            }
+            Refusals refusals = Refusals.of(check, made);
+            for (int hill : new int[] {-1, count, 4, 5, MIN, MAX}) {
+                refusals.index("hill " + hill + " of " + count, ledger -> query.of(ledger, hill));
+            }
+            refusals.leaveAllAsItWas();
+        }
+        Refusals.of(check, Ledgers::wellUsed)
+                .index("hill -1 beside blocks", ledger -> query.of(ledger, -1))
+                .index("hill 4 beside blocks", ledger -> query.of(ledger, 4))
+                .leaveAllAsItWas();
+        SnowLedger ledger = Ledgers.withHills(3);
+        ledger.undo();
+        check.refused("an undone hill", IndexOutOfBoundsException.class, () -> query.of(ledger, 2));
     }
 }

@@ -1,6 +1,6 @@
 import java.util.function.Supplier;
 
-/** All that the calls tell of a ledger, as a text. It takes several ledgers made alike, as reading some parts spoils others. */
+/** All that the calls tell of a ledger, as a text. It takes ledgers made alike, as reading a part spoils another. */
 final class Picture {
     private Picture() {
     }

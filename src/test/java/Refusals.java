@@ -5,13 +5,9 @@ import java.util.function.Supplier;
 
 /** Calls that are refused, each by an exception of one class and no other, and that leave the ledger as it was. */
 final class Refusals {
-    interface Call {
-        Object on(SnowLedger ledger);
-    }
-
     private final Check check;
     private final Supplier<SnowLedger> made;
-    private final List<Call> calls = new ArrayList<>();
+    private final List<LedgerCall> calls = new ArrayList<>();
 
     private Refusals(Check check, Supplier<SnowLedger> made) {
         this.check = check;
@@ -22,27 +18,27 @@ final class Refusals {
         return new Refusals(check, made);
     }
 
-    Refusals index(String what, Call call) {
+    Refusals index(String what, LedgerCall call) {
         return refused(what, IndexOutOfBoundsException.class, call);
     }
 
-    Refusals element(String what, Call call) {
+    Refusals element(String what, LedgerCall call) {
         return refused(what, NoSuchElementException.class, call);
     }
 
-    Refusals argument(String what, Call call) {
+    Refusals argument(String what, LedgerCall call) {
         return refused(what, IllegalArgumentException.class, call);
     }
 
-    Refusals state(String what, Call call) {
+    Refusals state(String what, LedgerCall call) {
         return refused(what, IllegalStateException.class, call);
     }
 
-    Refusals operation(String what, Call call) {
+    Refusals operation(String what, LedgerCall call) {
         return refused(what, UnsupportedOperationException.class, call);
     }
 
-    private Refusals refused(String what, Class<? extends RuntimeException> due, Call call) {
+    private Refusals refused(String what, Class<? extends RuntimeException> due, LedgerCall call) {
         calls.add(call);
         SnowLedger ledger = made.get();
         check.refused(what, due, () -> call.on(ledger));
@@ -57,7 +53,7 @@ final class Refusals {
 
     private SnowLedger afterCalls() {
         SnowLedger ledger = made.get();
-        for (Call call : calls) {
+        for (LedgerCall call : calls) {
             Picture.answer(() -> call.on(ledger));
         }
         return ledger;

@@ -5,6 +5,10 @@ import java.util.function.Supplier;
 
 /** The sentences of 'Scripts' and of promises 49 to 52. */
 final class ScriptSentences {
+    private static final String ERROR_POSITION = """
+            The error position of a script that does not have this form is the index of the first character that cannot
+            continue any script of this form, or the length of the script if every character can and the end comes too
+            early.""";
     private static final String DIGITS = "0123456789";
     /** 60 characters and seven commands. */
     private static final String LONGEST = "hill;hill;hill;hill;write 0,01,2,3,4;write 1,1,2,3,4;write 2";
@@ -152,12 +156,8 @@ final class ScriptSentences {
         standsFor(check, "mend 04", x -> x.repair(4));
     }
 
-    interface Change {
-        Object on(SnowLedger ledger);
-    }
-
     /** The script does what the call does, on two branches of which block 4 is invalid. */
-    private static void standsFor(Check check, String script, Change change) {
+    private static void standsFor(Check check, String script, LedgerCall change) {
         Supplier<SnowLedger> called = () -> {
             SnowLedger x = invalidTip();
             change.on(x);
@@ -238,10 +238,7 @@ final class ScriptSentences {
         }
     }
 
-    @Sentence(of = "Scripts", text = """
-            The error position of a script that does not have this form is the index of the first character that cannot
-            continue any script of this form, or the length of the script if every character can and the end comes too
-            early.""")
+    @Sentence(of = "Scripts", text = ERROR_POSITION)
     static void everyCharacterAfterEveryBeginning(Check check) {
         Map<String, String> next = continuations();
         for (String beginning : next.keySet()) {
@@ -312,10 +309,7 @@ final class ScriptSentences {
         next.put(word, behind);
     }
 
-    @Sentence(of = "Scripts", text = """
-            The error position of a script that does not have this form is the index of the first character that cannot
-            continue any script of this form, or the length of the script if every character can and the end comes too
-            early.""")
+    @Sentence(of = "Scripts", text = ERROR_POSITION)
     static void earlyEndsAndFirstMisfits(Check check) {
         Map<String, String> next = continuations();
         for (String beginning : next.keySet()) {
@@ -479,8 +473,8 @@ final class ScriptSentences {
         }
     }
 
-    @Sentence(of = "Promise 50", text = "Throws `IllegalStateException` if the method for a command throws an exception; "
-            + "no command takes effect, and failedCommand then returns the index of that command")
+    @Sentence(of = "Promise 50", text = "Throws `IllegalStateException` if the method for a command throws an "
+            + "exception; no command takes effect, and failedCommand then returns the index of that command")
     static void everyWayToFail(Check check) {
         fails(check, "a fifth hill", 1, "hill;hill", Ledgers::twoBranches);
         fails(check, "collect, no hill", 0, "write 3,1", Ledgers::twoBranches);

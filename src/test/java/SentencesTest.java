@@ -13,8 +13,8 @@ import java.util.Set;
  */
 public final class SentencesTest {
     private static final List<Class<?>> GROUPS = List.of(TermSentences.class, ScriptSentences.class,
-            ChangeSentences.class, CallSentences.class, BlockSentences.class, TreeSentences.class,
-            HillSentences.class, TextSentences.class);
+            ChangeSentences.class, CallSentences.class, UntouchedSentences.class, BlockSentences.class,
+            TreeSentences.class, HillSentences.class, TextSentences.class);
     /** Headings under which nothing stands that a call could break; FaceTest looks at the public face. */
     private static final Set<String> NOT_CALLED = Set.of("", "What it is", "The public face", "Terms", "Not promised");
 
@@ -34,6 +34,7 @@ public final class SentencesTest {
             }
         }
         eachSentenceIsTested();
+        System.out.println(tested.size() + " sentences tested");
         check.end();
     }
 

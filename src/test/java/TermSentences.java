@@ -1,5 +1,18 @@
+import java.util.Arrays;
+import java.util.NoSuchElementException;
+
 /** The sentences of 'Blocks', 'Flakes and hashes', 'Tampering', 'Hills' and 'Melting'. */
 final class TermSentences {
+    private static final String NUMBERS = "Blocks are numbered in the order in which they were added, from 0; "
+            + "a number is never used again.";
+    private static final String PARTS = "Every other block has a parent in the tree, which does not change, "
+            + "0 to 4 flakes, and a writer, which is a hill.";
+    private static final String VALID = """
+            A block is valid if its stored hash equals the hash that is computed from the stored hash of its parent,
+            its present flakes, its writer and its nonce.""";
+    private static final String MELTS = """
+            When a block melts, the block and all blocks whose branches contain it are removed from the tree, and all
+            hills that follow a removed block follow the parent of the melted block instead.""";
     private static final int MIN = Integer.MIN_VALUE;
     private static final int MAX = Integer.MAX_VALUE;
 
@@ -25,8 +38,7 @@ final class TermSentences {
         check.due("16 again", 16, () -> x.blockCount());
     }
 
-    @Sentence(of = "Blocks", text = "Blocks are numbered in the order in which they were added, from 0; "
-            + "a number is never used again.")
+    @Sentence(of = "Blocks", text = NUMBERS)
     static void numbersAreNeverUsedAgain(Check check) {
         SnowLedger x = Ledgers.withHills(2);
         check.due("the first", 1, () -> x.write(1));
@@ -45,8 +57,7 @@ final class TermSentences {
         check.due("all melted", 7, () -> x.write(0));
     }
 
-    @Sentence(of = "Blocks", text = "Blocks are numbered in the order in which they were added, from 0; "
-            + "a number is never used again.")
+    @Sentence(of = "Blocks", text = NUMBERS)
     static void numbersGoBeyondTheTreesSize(Check check) {
         SnowLedger x = Ledgers.withHills(1);
         for (int i = 1; i <= 120; i++) {
@@ -89,10 +100,10 @@ final class TermSentences {
     private static void rootOf(Check check, String when, SnowLedger x, int written) {
         check.refused(when + ", melted", IllegalArgumentException.class, () -> x.melt(0));
         check.due(when + ", exists", true, () -> x.exists(0));
-        check.refused(when + ", parent", java.util.NoSuchElementException.class, () -> x.parentOf(0));
+        check.refused(when + ", parent", NoSuchElementException.class, () -> x.parentOf(0));
         check.due(when + ", flakes", 0, () -> x.flakeCount(0));
         check.refused(when + ", flake 0", IndexOutOfBoundsException.class, () -> x.flakeAt(0, 0));
-        check.refused(when + ", writer", java.util.NoSuchElementException.class, () -> x.writerOf(0));
+        check.refused(when + ", writer", NoSuchElementException.class, () -> x.writerOf(0));
         int hills = x.hillCount();
         int all = 0;
         for (int hill = 0; hill < hills; hill++) {
@@ -102,8 +113,7 @@ final class TermSentences {
         check.due(when + ", written by no hill", written, () -> sum);
     }
 
-    @Sentence(of = "Blocks", text = "Every other block has a parent in the tree, which does not change, 0 to 4 flakes, "
-            + "and a writer, which is a hill.")
+    @Sentence(of = "Blocks", text = PARTS)
     static void parentsStay(Check check) {
         SnowLedger x = Ledgers.twoBranches();
         x.follow(0, 4);
@@ -122,8 +132,7 @@ final class TermSentences {
         check.due("writer of 5, in the room of the melted one", 0, () -> x.writerOf(5));
     }
 
-    @Sentence(of = "Blocks", text = "Every other block has a parent in the tree, which does not change, 0 to 4 flakes, "
-            + "and a writer, which is a hill.")
+    @Sentence(of = "Blocks", text = PARTS)
     static void noneToFourFlakes(Check check) {
         int[][] lists = {{}, {9}, {9, 8}, {9, 8, 7}, {9, 8, 7, 6}};
         SnowLedger x = Ledgers.withHills(4);
@@ -233,7 +242,7 @@ final class TermSentences {
 
     private static void rootOfFlakes(Check check, int due, int... flakes) {
         SnowLedger x = Ledgers.withBlock(flakes);
-        String what = "of " + java.util.Arrays.toString(flakes);
+        String what = "of " + Arrays.toString(flakes);
         check.due(what, due, () -> x.rootOfFlakes(1));
         check.due(what + " by halves", due, () -> x.rootOfFlakesByHalves(1));
         check.due(what + " in the hash", Due.hash(1, due, 0), () -> x.hashOf(1));
@@ -367,9 +376,7 @@ final class TermSentences {
         check.due("all replaced", 50 * 4, () -> x.flakeAt(1, 0) + x.flakeAt(1, 1) + x.flakeAt(1, 2) + x.flakeAt(1, 3));
     }
 
-    @Sentence(of = "Tampering", text = """
-            A block is valid if its stored hash equals the hash that is computed from the stored hash of its parent,
-            its present flakes, its writer and its nonce.""")
+    @Sentence(of = "Tampering", text = VALID)
     static void validByPresentFlakes(Check check) {
         SnowLedger x = Ledgers.withBlock(0, 0);
         check.due("as written", true, () -> x.isValid(1));
@@ -385,9 +392,7 @@ final class TermSentences {
     }
 
     /** With 10 and 40 the hash is 61 + 3, with 1 and 18 it is 61 + 29 * 344 + 0: the same, but for the nonce. */
-    @Sentence(of = "Tampering", text = """
-            A block is valid if its stored hash equals the hash that is computed from the stored hash of its parent,
-            its present flakes, its writer and its nonce.""")
+    @Sentence(of = "Tampering", text = VALID)
     static void validByStoredNonce(Check check) {
         SnowLedger x = Ledgers.withBlock(10, 40);
         check.due("hash", 64, () -> x.hashOf(1));
@@ -396,9 +401,7 @@ final class TermSentences {
         check.due("the nonce is not sought anew", false, () -> x.isValid(1));
     }
 
-    @Sentence(of = "Tampering", text = """
-            A block is valid if its stored hash equals the hash that is computed from the stored hash of its parent,
-            its present flakes, its writer and its nonce.""")
+    @Sentence(of = "Tampering", text = VALID)
     static void validByTheParentsStoredHash(Check check) {
         SnowLedger x = Ledgers.withBlock(0);
         Ledgers.write(x, 0, 0);
@@ -513,9 +516,7 @@ final class TermSentences {
 
     // Melting
 
-    @Sentence(of = "Melting", text = """
-            When a block melts, the block and all blocks whose branches contain it are removed from the tree, and all
-            hills that follow a removed block follow the parent of the melted block instead.""")
+    @Sentence(of = "Melting", text = MELTS)
     static void branchesMelt(Check check) {
         SnowLedger x = Ledgers.withHills(4);
         x.write(0);
@@ -543,9 +544,7 @@ final class TermSentences {
         check.due("the root alone", 1, () -> x.blockCount());
     }
 
-    @Sentence(of = "Melting", text = """
-            When a block melts, the block and all blocks whose branches contain it are removed from the tree, and all
-            hills that follow a removed block follow the parent of the melted block instead.""")
+    @Sentence(of = "Melting", text = MELTS)
     static void tipsAndWholeChainsMelt(Check check) {
         SnowLedger x = Ledgers.chain(15);
         check.due("the tip", 1, () -> x.melt(15));

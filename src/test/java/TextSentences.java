@@ -1,7 +1,12 @@
+import java.util.NoSuchElementException;
 import java.util.function.Supplier;
 
 /** The sentences of promises 46 to 48: the output text. */
 final class TextSentences {
+    private static final String DESCRIBES = """
+            Replaces the output text by a description of a block: the number, "#" and the stored hash, and, unless it is
+            the root, "&lt;" and the number of the parent, "h" and the writer, and for each flake "," and the flake;
+            followed by "!" if it is not valid; as in "3#1204&lt;1h0,12,7!".""";
     private static final int MIN = Integer.MIN_VALUE;
     private static final int MAX = Integer.MAX_VALUE;
 
@@ -14,10 +19,7 @@ final class TextSentences {
 
     // Promise 46
 
-    @Sentence(of = "Promise 46", text = """
-            Replaces the output text by a description of a block: the number, "#" and the stored hash, and, unless it is
-            the root, "&lt;" and the number of the parent, "h" and the writer, and for each flake "," and the flake;
-            followed by "!" if it is not valid; as in "3#1204&lt;1h0,12,7!".""")
+    @Sentence(of = "Promise 46", text = DESCRIBES)
     static void describedBlocks(Check check) {
         check.due("the root alone", "0#1", () -> rendered(new SnowLedger(), 0));
         SnowLedger x = Ledgers.twoBranches();
@@ -37,10 +39,7 @@ final class TextSentences {
         check.due("the last hill", "3#" + Due.hash(0, 0, 3) + "<2h3", () -> rendered(y, y.write(3)));
     }
 
-    @Sentence(of = "Promise 46", text = """
-            Replaces the output text by a description of a block: the number, "#" and the stored hash, and, unless it is
-            the root, "&lt;" and the number of the parent, "h" and the writer, and for each flake "," and the flake;
-            followed by "!" if it is not valid; as in "3#1204&lt;1h0,12,7!".""")
+    @Sentence(of = "Promise 46", text = DESCRIBES)
     static void describedInvalidBlocks(Check check) {
         SnowLedger x = Ledgers.twoBranches();
         x.replaceFlake(1, 2, 0);
@@ -57,10 +56,7 @@ final class TextSentences {
         check.due("the root is valid", "0#1", () -> rendered(y, 0));
     }
 
-    @Sentence(of = "Promise 46", text = """
-            Replaces the output text by a description of a block: the number, "#" and the stored hash, and, unless it is
-            the root, "&lt;" and the number of the parent, "h" and the writer, and for each flake "," and the flake;
-            followed by "!" if it is not valid; as in "3#1204&lt;1h0,12,7!".""")
+    @Sentence(of = "Promise 46", text = DESCRIBES)
     static void descriptionsReplaceTheText(Check check) {
         SnowLedger x = Ledgers.twoBranches();
         x.renderBlock(1);
@@ -98,14 +94,10 @@ final class TextSentences {
         textStays(check, x -> x.renderBlock(9));
     }
 
-    interface Rendering {
-        Object of(SnowLedger ledger);
-    }
-
-    private static void textStays(Check check, Rendering refused) {
+    private static void textStays(Check check, LedgerCall refused) {
         SnowLedger x = Ledgers.twoBranches();
         int length = x.renderBlock(1);
-        check.refused("no block", java.util.NoSuchElementException.class, () -> refused.of(x));
+        check.refused("no block", NoSuchElementException.class, () -> refused.on(x));
         check.due("the text stays", "1#3196<0h0,10,20,30", () -> Check.output(x, length));
         check.refused("and its length", IndexOutOfBoundsException.class, () -> x.outputAt(length));
     }

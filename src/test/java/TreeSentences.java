@@ -1,5 +1,18 @@
+import java.util.Arrays;
+import java.util.NoSuchElementException;
+
 /** The sentences of promises 25 to 35: branches, tips and flakes of the whole tree. */
 final class TreeSentences {
+    private static final String RANKS = """
+            Returns the tip at a rank when tips are sorted by height in descending order, then by stored hash in
+            ascending order, then by number in ascending order.""";
+    private static final String FORETELLS_REPAIRS = """
+            Predicts how many blocks of a branch would be repaired if its blocks were considered from the root upwards
+            and each block that is not valid at that moment was repaired.""";
+    private static final String BEST = """
+            Returns the best valid block: the block with the greatest height among all blocks whose branches are valid,
+            and among several such blocks the one with the smallest stored hash, and then the one with the lowest
+            number.""";
     private static final int MIN = Integer.MIN_VALUE;
     private static final int MAX = Integer.MAX_VALUE;
 
@@ -32,7 +45,7 @@ final class TreeSentences {
             for (int other = 0; other < branches.length; other++) {
                 int high = block;
                 int low = other;
-                boolean due = java.util.Arrays.stream(branches[block]).anyMatch(number -> number == low);
+                boolean due = Arrays.stream(branches[block]).anyMatch(number -> number == low);
                 check.due(low + " in the branch of " + high, due, () -> x.isInBranch(low, high));
             }
         }
@@ -158,9 +171,7 @@ final class TreeSentences {
 
     // Promise 29
 
-    @Sentence(of = "Promise 29", text = {"""
-            Returns the tip at a rank when tips are sorted by height in descending order, then by stored hash in
-            ascending order, then by number in ascending order.""", "Returns the number of the tip."})
+    @Sentence(of = "Promise 29", text = {RANKS, "Returns the number of the tip."})
     static void rankedByHeight(Check check) {
         SnowLedger x = fork();
         x.follow(1, 5);
@@ -179,9 +190,7 @@ final class TreeSentences {
     }
 
     /** The hashes on the root are 64, 92, 120 and 148 with the flakes 0, 1, 2 and 3. */
-    @Sentence(of = "Promise 29", text = """
-            Returns the tip at a rank when tips are sorted by height in descending order, then by stored hash in
-            ascending order, then by number in ascending order.""")
+    @Sentence(of = "Promise 29", text = RANKS)
     static void rankedByHash(Check check) {
         SnowLedger x = Ledgers.withHills(1);
         for (int flake : new int[] {2, 0, 3, 1}) {
@@ -197,9 +206,7 @@ final class TreeSentences {
         ranks(check, "by height first", x, 5, 1, 3, 2);
     }
 
-    @Sentence(of = "Promise 29", text = """
-            Returns the tip at a rank when tips are sorted by height in descending order, then by stored hash in
-            ascending order, then by number in ascending order.""")
+    @Sentence(of = "Promise 29", text = RANKS)
     static void rankedByNumber(Check check) {
         SnowLedger x = Ledgers.star(15);
         ranks(check, "of a star", x, 1, 2, 3, 4, 5, 6, 7, 8, 9, 10, 11, 12, 13, 14, 15);
@@ -239,10 +246,7 @@ final class TreeSentences {
 
     // Promise 30
 
-    @Sentence(of = "Promise 30", text = {"""
-            Returns the best valid block: the block with the greatest height among all blocks whose branches are valid,
-            and among several such blocks the one with the smallest stored hash, and then the one with the lowest
-            number.""", "Returns the number of the block."})
+    @Sentence(of = "Promise 30", text = {BEST, "Returns the number of the block."})
     static void bestByHeight(Check check) {
         check.due("the root alone", 0, () -> new SnowLedger().bestValidBlock());
         for (int blocks = 1; blocks <= 15; blocks++) {
@@ -254,10 +258,7 @@ final class TreeSentences {
         }
     }
 
-    @Sentence(of = "Promise 30", text = """
-            Returns the best valid block: the block with the greatest height among all blocks whose branches are valid,
-            and among several such blocks the one with the smallest stored hash, and then the one with the lowest
-            number.""")
+    @Sentence(of = "Promise 30", text = BEST)
     static void bestByHashThenNumber(Check check) {
         SnowLedger x = Ledgers.withHills(1);
         for (int flake : new int[] {2, 0, 3, 1, 0}) {
@@ -356,14 +357,14 @@ final class TreeSentences {
                 .leaveAllAsItWas();
         SnowLedger x = Ledgers.withBlock(5);
         x.replaceFlake(1, 0, 6);
-        check.refused("replaced", java.util.NoSuchElementException.class, () -> x.blockWith(5));
+        check.refused("replaced", NoSuchElementException.class, () -> x.blockWith(5));
         x.undo();
         x.undo();
-        check.refused("the block undone", java.util.NoSuchElementException.class, () -> x.blockWith(5));
+        check.refused("the block undone", NoSuchElementException.class, () -> x.blockWith(5));
         SnowLedger y = Ledgers.withBlock(1, 2, 3, 4);
         y.melt(1);
         Ledgers.write(y, 0, 9);
-        check.refused("left in a melted one's room", java.util.NoSuchElementException.class, () -> y.blockWith(2));
+        check.refused("left in a melted one's room", NoSuchElementException.class, () -> y.blockWith(2));
     }
 
     // Promise 32
@@ -482,9 +483,7 @@ final class TreeSentences {
 
     // Promise 35
 
-    @Sentence(of = "Promise 35", text = {"""
-            Predicts how many blocks of a branch would be repaired if its blocks were considered from the root upwards
-            and each block that is not valid at that moment was repaired.""", "Returns the number of repairs."})
+    @Sentence(of = "Promise 35", text = {FORETELLS_REPAIRS, "Returns the number of repairs."})
     static void repairsOfChains(Check check) {
         check.due("the root alone", 0, () -> new SnowLedger().repairsNeeded(0));
         SnowLedger valid = Ledgers.chain(15);
@@ -513,9 +512,7 @@ final class TreeSentences {
         return repairs;
     }
 
-    @Sentence(of = "Promise 35", text = """
-            Predicts how many blocks of a branch would be repaired if its blocks were considered from the root upwards
-            and each block that is not valid at that moment was repaired.""")
+    @Sentence(of = "Promise 35", text = FORETELLS_REPAIRS)
     static void repairsThatMendOrBreakChildren(Check check) {
         SnowLedger x = Ledgers.withBlock(10);
         x.write(0);
@@ -533,9 +530,7 @@ final class TreeSentences {
         check.due("the repaired has the same hash", 1, () -> y.repairsNeeded(3));
     }
 
-    @Sentence(of = "Promise 35", text = """
-            Predicts how many blocks of a branch would be repaired if its blocks were considered from the root upwards
-            and each block that is not valid at that moment was repaired.""")
+    @Sentence(of = "Promise 35", text = FORETELLS_REPAIRS)
     static void repairsOfOneBranchAlone(Check check) {
         SnowLedger x = Ledgers.twoBranches();
         x.replaceFlake(1, 0, 11);
@@ -551,6 +546,25 @@ final class TreeSentences {
         Ledgers.write(y, 0, 7);
         y.replaceFlake(2, 0, 8);
         check.due("a child in a melted one's room", 2, () -> y.repairsNeeded(3));
+    }
+
+    @Sentence(of = "Promise 35", text = FORETELLS_REPAIRS)
+    static void repairsOfOtherHillsBlocks(Check check) {
+        for (int hill = 0; hill < 4; hill++) {
+            int writer = hill;
+            SnowLedger x = Ledgers.withHills(4);
+            for (int block = 1; block <= 3; block++) {
+                Ledgers.write(x, writer, 7);
+            }
+            check.due("valid, by hill " + writer, 0, () -> x.repairsNeeded(3));
+            x.replaceFlake(1, 0, 8);
+            x.repair(1);
+            x.replaceFlake(1, 0, 7);
+            String before = Picture.state(x);
+            check.due("the first by hill " + writer + " mends the second", 1, () -> x.repairsNeeded(3));
+            check.due("none is repaired", before, () -> Picture.state(x));
+            check.due("repaired in truth", 1, () -> repairs(x, 3));
+        }
     }
 
     @Sentence(of = "Promise 35", text = "Throws `NoSuchElementException` if there is no such block in the tree")

@@ -1,0 +1,4 @@
+/** A call, or some, on the ledger that is given. */
+interface LedgerCall {
+    Object on(SnowLedger ledger);
+}
