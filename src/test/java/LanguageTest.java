@@ -1,4 +1,7 @@
 import java.io.IOException;
+import java.lang.reflect.Field;
+import java.lang.reflect.Method;
+import java.lang.reflect.Modifier;
 import java.nio.file.Files;
 import java.nio.file.Path;
 import java.util.ArrayList;
@@ -6,10 +9,13 @@ import java.util.List;
 import java.util.regex.Matcher;
 import java.util.regex.Pattern;
 
-/** Those rules of ../shared/LANGUAGE.md that the text of the class alone can break; FaceTest looks at rule 1. */
+/** Those rules of ../shared/LANGUAGE.md that the text and the make of the class show; FaceTest looks at rule 1. */
 public final class LanguageTest {
     private static final Check check = new Check();
     private static final int LONGEST_METHOD = 60;
+    private static final int MOST_PARAMETERS = 7;
+    private static final int MOST_CLASSES = 12;
+    private static final int MOST_FIELDS = 20;
 
     public static void main(String[] args) throws IOException {
         String source = Files.readString(Path.of("src/main/java/SnowLedger.java"));
@@ -30,8 +36,28 @@ public final class LanguageTest {
         noneOf("5 static fields", bare, "\\bstatic (?!final )[\\w\\[\\]]+ \\w+ *[=;]");
         noneOf("5 static initialiser blocks", bare, "\\bstatic *\\{");
         noneOf("13 clock and chance", bare, "\\b(Random|currentTimeMillis|nanoTime|Thread|getenv|getProperty)\\b");
+        noneOf("4 System and Arrays", bare,
+                "\\b(System\\.(?!arraycopy\\()|Arrays\\.(?!(fill|copyOf|copyOfRange)\\())\\w+\\(");
+        noneOf("6 equals, hashCode and toString", bare, "\\b(boolean equals|int hashCode|String toString)\\(");
         check.due("11 longest method", true, () -> longestBlock(bare) <= LONGEST_METHOD);
+        sizes(SnowLedger.class);
+        for (Class<?> inner : SnowLedger.class.getDeclaredClasses()) {
+            sizes(inner);
+        }
+        check.due("11 classes", true, () -> SnowLedger.class.getDeclaredClasses().length < MOST_CLASSES);
         check.end();
+    }
+
+    private static void sizes(Class<?> type) {
+        int fields = 0;
+        for (Field field : type.getDeclaredFields()) {
+            fields += Modifier.isStatic(field.getModifiers()) ? 0 : 1;
+        }
+        int count = fields;
+        check.due("rule 11 fields of " + type.getSimpleName(), true, () -> count <= MOST_FIELDS);
+        for (Method method : type.getDeclaredMethods()) {
+            check.due("rule 11 parameters of " + method, true, () -> method.getParameterCount() <= MOST_PARAMETERS);
+        }
     }
 
     private static void noneOf(String what, String code, String forbidden) {
