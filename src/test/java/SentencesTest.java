@@ -12,11 +12,14 @@ import java.util.Set;
  * that each names a sentence that stands there.
  */
 public final class SentencesTest {
-    private static final List<Class<?>> GROUPS = List.of(TermSentences.class, ScriptSentences.class,
-            ChangeSentences.class, CallSentences.class, UntouchedSentences.class, BlockSentences.class,
-            TreeSentences.class, HillSentences.class, TextSentences.class);
+    private static final List<Class<?>> GROUPS = List.of(OpeningSentences.class, TermSentences.class,
+            ScriptSentences.class, ChangeSentences.class, CallSentences.class, UntouchedSentences.class,
+            BlockSentences.class, TreeSentences.class, HillSentences.class, TextSentences.class);
     /** Headings under which nothing stands that a call could break; FaceTest looks at the public face. */
-    private static final Set<String> NOT_CALLED = Set.of("", "What it is", "The public face", "Terms", "Not promised");
+    private static final Set<String> NOT_CALLED = Set.of("", "The public face", "Not promised");
+    /** Nothing follows from these for a call of one thread's, as no number below zero is ever divided. */
+    private static final Set<String> NOT_SEEN = Set.of("Terms: It is not thread-safe.",
+            "Terms: All integer divisions round down.");
 
     private static final Check check = new Check();
     private static final Set<String> tested = new HashSet<>();
@@ -59,7 +62,8 @@ public final class SentencesTest {
         for (String heading : document.headings()) {
             for (String sentence : document.under(heading)) {
                 String name = heading + ": " + sentence;
-                check.due("a test of: " + name, true, () -> NOT_CALLED.contains(heading) || tested.contains(name));
+                check.due("a test of: " + name, true,
+                        () -> NOT_CALLED.contains(heading) || NOT_SEEN.contains(name) || tested.contains(name));
             }
         }
     }
